@@ -1,3 +1,6 @@
+import java.util.Arrays;
+import java.util.function.IntBinaryOperator;
+
 /** What every test shares: comparing answers, and ending with exit code 1 if one was wrong. */
 final class Checks {
     private static int wrong = 0;
@@ -22,34 +25,41 @@ final class Checks {
         }
     }
 
+    /** A getter of three numbers, as stepInfo is. */
+    interface StepGetter {
+        int of(int inst, int step, int what);
+    }
+
     /** The answers of every getter, for every argument that is allowed and the ones just outside. */
     static int[] answers(SagaRunner x) {
-        int[] all = new int[2000];
-        int n = 0;
-        all[n++] = x.stepCount();
-        all[n++] = x.clock();
-        all[n++] = x.journalLength();
-        all[n++] = x.durableLength();
+        int[] numbers = {x.stepCount(), x.clock(), x.journalLength(), x.durableLength()};
+        return answers(numbers, x::instanceInfo, x::stepInfo, x::journalField);
+    }
+
+    static int[] answers(int[] numbers, IntBinaryOperator instanceInfo, StepGetter stepInfo,
+            IntBinaryOperator journalField) {
+        int[] all = Arrays.copyOf(numbers, 2000);
+        int n = numbers.length;
         for (int inst = -1; inst <= 8; inst++) {
             for (int what = -1; what <= 3; what++) {
-                all[n++] = x.instanceInfo(inst, what);
+                all[n++] = instanceInfo.applyAsInt(inst, what);
             }
             for (int step = -1; step <= 12; step++) {
                 for (int what = -1; what <= 5; what++) {
-                    all[n++] = x.stepInfo(inst, step, what);
+                    all[n++] = stepInfo.of(inst, step, what);
                 }
             }
         }
         for (int index = -1; index <= 128; index++) {
             for (int field = -1; field <= 4; field++) {
-                all[n++] = x.journalField(index, field);
+                all[n++] = journalField.applyAsInt(index, field);
             }
         }
         return all;
     }
 
     static void unchanged(String call, int[] before, SagaRunner x) {
-        holds("that " + call + " changes no getter's answer", java.util.Arrays.equals(before, answers(x)));
+        holds("that " + call + " changes no getter's answer", Arrays.equals(before, answers(x)));
     }
 
     /** State, stage and pastPivot of a slot. */

@@ -12,6 +12,7 @@ public final class Promise04ReportTest {
         pastPivotOnlyRetries();
         conditionsComeInOrder();
         otherSlotsStay();
+        greatestTemplateInEverySlot();
         Checks.end();
     }
 
@@ -272,5 +273,31 @@ public final class Promise04ReportTest {
         Checks.stepIs(x, 0, 0, SagaRunner.DONE, 1, 0, 1, 0);
         Checks.recordIs(x, 3, SagaRunner.J_OK, 1, 0, 1);
         Checks.recordIs(x, 4, SagaRunner.J_FAIL, 2, 0, 1);
+    }
+
+    private static void greatestTemplateInEverySlot() {
+        SagaRunner x = new SagaRunner(8, 128);
+        for (int step = 0; step < 12; step++) {
+            x.defineStep(step < 11 ? 0 : 1, 1, 15, 1);
+        }
+        for (int slot = 0; slot < 8; slot++) {
+            x.start();
+        }
+        for (int step = 0; step < 11; step++) {
+            for (int slot = 7; slot >= 0; slot -= 7) {
+                Checks.due("report", x.report(slot, step, 1, true), SagaRunner.DONE);
+                Checks.stepIs(x, slot, step, SagaRunner.DONE, 1, 0, step + 1, 0);
+            }
+        }
+        for (int slot = 0; slot < 8; slot += 7) {
+            Checks.due("report", x.report(slot, 11, 1, false), SagaRunner.FAILED);
+            for (int step = 10; step >= 0; step--) {
+                Checks.due("report", x.report(slot, step, 1, true), SagaRunner.UNDONE);
+                Checks.stepIs(x, slot, step, SagaRunner.UNDONE, 1, 0, step + 1, 11 - step);
+            }
+            Checks.slotIs(x, slot, SagaRunner.ROLLED_BACK, 1, 0);
+        }
+        Checks.slotIs(x, 6, SagaRunner.RUNNING, 0, 0);
+        Checks.stepIs(x, 1, 0, SagaRunner.ACTIVE, 1, 15, 0, 0);
     }
 }
