@@ -1,47 +1,67 @@
 import java.util.Arrays;
 
 public final class Promise07FlushTest {
+    /** Where durableLength stands among Checks.answers, the one answer that a flush may change. */
+    private static final int DURABLE_LENGTH = 3;
+
     public static void main(String[] args) {
-        flushTakesTheWholeJournal();
-        flushChangesNothingElse();
-        flushOfAFullJournal();
-        Checks.end();
+        sentences().run();
     }
 
-    private static void flushTakesTheWholeJournal() {
+    static Sentences sentences() {
+        return new Sentences("Promise 7: Flushing")
+                .test("`flush()` is never refused.", "an empty journal", Promise07FlushTest::emptyJournalIsFlushed)
+                .test("`flush()` is never refused.", "a full journal", Promise07FlushTest::fullJournalIsFlushed)
+                .test("durableLength becomes journalLength, and the new durableLength is answered.",
+                        Promise07FlushTest::durableLengthIsAnswered)
+                .test("It appends nothing and changes nothing else", Promise07FlushTest::nothingElseChanges)
+                .test("a second flush in a row answers the same value", Promise07FlushTest::secondFlushIsTheSame);
+    }
+
+    private static void emptyJournalIsFlushed() {
         SagaRunner x = new SagaRunner(1, 8);
-        Checks.due("flush() of nothing", x.flush(), 0);
-        x.tick(1);
-        x.tick(1);
-        Checks.due("durableLength()", x.durableLength(), 0);
-        Checks.due("flush()", x.flush(), 2);
-        Checks.due("durableLength()", x.durableLength(), 2);
-        Checks.due("second flush()", x.flush(), 2);
-        x.tick(1);
-        Checks.due("durableLength()", x.durableLength(), 2);
-        Checks.due("flush()", x.flush(), 3);
-        Checks.due("journalLength()", x.journalLength(), 3);
-    }
-
-    private static void flushChangesNothingElse() {
-        SagaRunner x = new SagaRunner(2, 16);
-        x.defineStep(0, 2, 5, 1);
-        x.start();
-        x.tick(3);
-        x.report(0, 0, 1, false);
         int[] before = Checks.answers(x);
-        Checks.due("flush()", x.flush(), 3);
-        int[] after = Checks.answers(x);
-        before[3] = 3; // durableLength, the one answer that may change
-        Checks.holds("that flush() changes durableLength alone", Arrays.equals(before, after));
-        x.flush();
-        Checks.unchanged("a second flush()", after, x);
+        Checks.due("flush()", x.flush(), 0);
+        Checks.unchanged("flush() of nothing", before, x);
+        x.tick(1);
+        x.crash();
+        Checks.due("flush() after a crash", x.flush(), 0);
     }
 
-    private static void flushOfAFullJournal() {
-        SagaRunner x = new SagaRunner(1, 128);
-        Checks.fillWithTicks(x, 128);
-        Checks.due("flush()", x.flush(), 128);
-        Checks.due("flush()", x.flush(), 128);
+    private static void fullJournalIsFlushed() {
+        for (int capacity = 8; capacity <= 128; capacity += 8) {
+            SagaRunner x = new SagaRunner(1, capacity);
+            Checks.fillWithTicks(x, capacity);
+            Checks.due("flush()", x.flush(), capacity);
+            Checks.lengthsAre(x, capacity, capacity);
+        }
+    }
+
+    private static void durableLengthIsAnswered() {
+        SagaRunner x = new SagaRunner(1, 16);
+        for (int records = 1; records <= 16; records++) {
+            x.tick(1);
+            Checks.lengthsAre(x, records, records - 1);
+            Checks.due("flush()", x.flush(), records);
+            Checks.lengthsAre(x, records, records);
+        }
+    }
+
+    private static void nothingElseChanges() {
+        SagaRunner x = Slots.oneInEachState();
+        x.tick(3);
+        int[] before = Checks.answers(x);
+        Checks.due("flush()", x.flush(), 22);
+        before[DURABLE_LENGTH] = 22;
+        Checks.holds("that flush() changes durableLength alone", Arrays.equals(before, Checks.answers(x)));
+    }
+
+    private static void secondFlushIsTheSame() {
+        SagaRunner x = Slots.oneInEachState();
+        Checks.due("flush()", x.flush(), 21);
+        int[] before = Checks.answers(x);
+        Checks.due("second flush()", x.flush(), 21);
+        Checks.due("third flush()", x.flush(), 21);
+        Checks.unchanged("a second flush()", before, x);
     }
 }

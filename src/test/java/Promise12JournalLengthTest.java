@@ -1,65 +1,55 @@
 public final class Promise12JournalLengthTest {
     public static void main(String[] args) {
-        acceptedCallsAppendOneRecord();
-        otherCallsAppendNone();
-        lengthsGoUpToTheCapacity();
-        Checks.end();
+        sentences().run();
     }
 
-    private static void lengthsAre(SagaRunner x, int journal, int durable) {
-        Checks.due("journalLength()", x.journalLength(), journal);
-        Checks.due("durableLength()", x.durableLength(), durable);
+    static Sentences sentences() {
+        return new Sentences("Promise 12: Journal lengths")
+                .test("`journalLength()` answers the number of records held, 0..journalCapacity.", "each number",
+                        Promise12JournalLengthTest::everyLengthUpToTheCapacity)
+                .test("`durableLength()` answers the number of durable records, 0..journalLength.", "each number",
+                        Promise12JournalLengthTest::everyDurableLength)
+                .test("Neither changes anything.", Promise12JournalLengthTest::nothingChanges);
     }
 
-    private static void acceptedCallsAppendOneRecord() {
-        SagaRunner x = new SagaRunner(2, 16);
-        x.defineStep(0, 2, 5, 1);
-        lengthsAre(x, 0, 0);
-        x.start();
-        lengthsAre(x, 1, 0);
-        x.report(0, 0, 1, false);
-        lengthsAre(x, 2, 0);
-        x.report(0, 0, 2, true);
-        lengthsAre(x, 3, 0);
-        x.flush();
-        lengthsAre(x, 3, 3);
-        x.tick(16);
-        lengthsAre(x, 4, 3);
-        x.release(0);
-        lengthsAre(x, 5, 3);
-        x.crash();
-        lengthsAre(x, 3, 3);
-    }
-
-    private static void otherCallsAppendNone() {
-        SagaRunner x = new SagaRunner(1, 16);
-        x.start();
-        x.defineStep(0, 1, 5, 1);
-        x.tick(0);
-        x.tick(17);
-        x.release(0);
-        x.report(0, 0, 1, true);
-        x.report(1, 0, 1, true);
-        x.flush();
-        x.crash();
-        lengthsAre(x, 0, 0);
-        x.start();
-        x.start();
-        x.report(0, 0, 2, true);
-        lengthsAre(x, 1, 0);
-    }
-
-    private static void lengthsGoUpToTheCapacity() {
-        for (int capacity = 8; capacity <= 128; capacity += 40) {
+    private static void everyLengthUpToTheCapacity() {
+        for (int capacity = 8; capacity <= 128; capacity += 24) {
             SagaRunner x = new SagaRunner(1, capacity);
-            Checks.fillWithTicks(x, capacity);
-            lengthsAre(x, capacity, 0);
+            for (int length = 0; length < capacity; length++) {
+                Checks.due("journalLength()", x.journalLength(), length);
+                x.tick(1);
+            }
+            Checks.due("journalLength()", x.journalLength(), capacity);
             x.tick(1);
-            lengthsAre(x, capacity, 0);
+            Checks.due("journalLength() after FULL", x.journalLength(), capacity);
             x.flush();
-            lengthsAre(x, capacity, capacity);
-            x.tick(1);
-            lengthsAre(x, capacity, capacity);
+            Checks.due("journalLength() after flush", x.journalLength(), capacity);
         }
+    }
+
+    private static void everyDurableLength() {
+        for (int durable = 0; durable <= 128; durable++) {
+            SagaRunner x = new SagaRunner(1, 128);
+            for (int i = 0; i < durable; i++) {
+                x.tick(1);
+            }
+            Checks.lengthsAre(x, durable, 0);
+            x.flush();
+            Checks.lengthsAre(x, durable, durable);
+            Checks.fillWithTicks(x, 128);
+            Checks.lengthsAre(x, 128, durable);
+            x.crash();
+            Checks.lengthsAre(x, durable, durable);
+        }
+    }
+
+    private static void nothingChanges() {
+        SagaRunner x = Slots.oneInEachState();
+        x.flush();
+        x.tick(1);
+        int[] before = Checks.answers(x);
+        Checks.lengthsAre(x, 22, 21);
+        Checks.lengthsAre(x, 22, 21);
+        Checks.unchanged("asking for the lengths", before, x);
     }
 }
