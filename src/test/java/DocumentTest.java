@@ -13,6 +13,7 @@ public final class DocumentTest {
     private static final Path TESTS = Path.of("src/test/java");
 
     private static final List<Sentences> TESTED = List.of(
+            OverviewTest.sentences(),
             DefinitionsTemplateTest.sentences(),
             DefinitionsRulesTest.sentences(),
             DefinitionsJournalTest.sentences(),
@@ -32,7 +33,7 @@ public final class DocumentTest {
 
     public static void main(String[] args) throws IOException {
         Map<String, List<String>> parts = partsToTest();
-        Checks.due("parts of the document: the definitions and thirteen promises", parts.size(), 14);
+        Checks.due("parts of the document: what it is, the definitions and thirteen promises", parts.size(), 15);
         for (Map.Entry<String, List<String>> part : parts.entrySet()) {
             partIsTested(part.getKey(), part.getValue());
         }
@@ -40,14 +41,14 @@ public final class DocumentTest {
         Checks.end();
     }
 
-    /** The headings of the definitions and the promises, each with its sentences. */
+    /** Each heading with its sentences. "The public face" has none and is FaceTest's; "Not promised" asks nothing. */
     private static Map<String, List<String>> partsToTest() throws IOException {
         Map<String, List<String>> parts = new LinkedHashMap<>();
         String heading = "";
         for (String line : Files.readAllLines(DOCUMENT)) {
             if (line.startsWith("## ")) {
                 heading = line.substring(3);
-            } else if (!line.isBlank() && (heading.equals("Definitions") || heading.startsWith("Promise "))) {
+            } else if (!line.isBlank() && heading.matches("What it is|Definitions|Promise .*")) {
                 List<String> sentences = parts.computeIfAbsent(heading, none -> new ArrayList<>());
                 sentences.addAll(List.of(line.trim().split("(?<=\\.) (?=[A-Z`])")));
             }
@@ -87,7 +88,8 @@ public final class DocumentTest {
 
     private static void everyTestFileIsListed() throws IOException {
         try (Stream<Path> files = Files.list(TESTS)) {
-            long found = files.filter(file -> file.getFileName().toString().matches("(Promise|Definitions).*Test.java"))
+            long found = files.map(file -> file.getFileName().toString())
+                    .filter(name -> name.matches("(Overview|Definitions|Promise).*Test\\.java"))
                     .count();
             Checks.due("test files that quote the document", TESTED.size(), (int) found);
         }
